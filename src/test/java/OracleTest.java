@@ -156,7 +156,9 @@ public final class OracleTest {
             case 3: case 4:
                 same("distance", calling(() -> x.distance(face, other)), mirror.distance(face, other), face, other);
                 break;
-            case 5: case 6: case 7: same("route", x.route(face, other, i), mirror.route(face, other, i), face, other, i); break;
+            case 5: case 6: case 7:
+                same("route", x.route(face, other, i), mirror.route(face, other, i), face, other, i);
+                break;
             case 8: same("circulates", x.circulates(), mirror.circulates()); break;
             case 9: same("potential", calling(() -> x.potential(face)), mirror.potential(face), face); break;
             case 10: same("ring", x.ring(i), mirror.ring(i), i); break;

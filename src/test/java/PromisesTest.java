@@ -15,6 +15,7 @@ public final class PromisesTest {
         circulates();
         ring();
         flow();
+        longestWay();
         questionsOfFlow();
         cut();
         rings();
@@ -106,6 +107,7 @@ public final class PromisesTest {
         says("grid 3 3;;all 1 1", Check.fault(9, 1));
         says("grid 3 3;grid 3 3", Check.fault(9, 1));
         says("grid 3 3;rigth 0 0 1 1", Check.fault(9, 1));
+        says("grid 3 3;allz 1 1", Check.fault(9, 1));
         says("grid 3 3;all 1 1 1", Check.fault(17, 1));
         says("grid 3 3;all 1", Check.fault(14, 1));
         says("grid 3 3;all --1 1", Check.fault(13, 1));
@@ -191,7 +193,8 @@ public final class PromisesTest {
     private static void slant() {
         PlanarFlow x = new PlanarFlow();
         x.flow(0, 8);
-        int[][] wrong = {{2, 1}, {6, 1}, {8, 1}, {9, 1}, {-1, 1}, {0, 3}, {0, -1}, {Integer.MAX_VALUE, 0}};
+        int[][] wrong = {{2, 1}, {6, 1}, {8, 1}, {9, 1}, {36, 1}, {-1, 1}, {0, 3}, {0, -1},
+            {Integer.MAX_VALUE, 0}};
         for (int[] pair : wrong) {
             Check.due("slant(" + pair[0] + ", " + pair[1] + ")", x.slant(pair[0], pair[1]), -1);
         }
@@ -365,6 +368,23 @@ public final class PromisesTest {
         Check.due("first up, left, down", star.ways(1), 3);
         Check.due("then left", star.on(9), -1);
         Check.due("aslant was not needed", star.on(2), 0);
+    }
+
+    // Promises 14, 17: one way winds through all nodes of the greatest grid, after nothing else leads on
+    private static void longestWay() {
+        PlanarFlow x = new PlanarFlow();
+        x.grid(6, 6);
+        for (int y = 0; y < 6; y++) {
+            for (int e = 0; e < 5; e++) {
+                x.bears(3 * (6 * y + e), y % 2 == 0 ? 1 : 0, y % 2 == 0 ? 0 : 1);
+            }
+            if (y < 5) {
+                x.bears(3 * (6 * y + (y % 2 == 0 ? 5 : 0)) + 1, 1, 0);
+            }
+        }
+        Check.due("flow(0, 30)", x.flow(0, 30), 1);
+        Check.due("WAYS", x.ways(0), 1);
+        Check.due("its EDGES", x.ways(1), 35);
     }
 
     // Promises 14 to 18: what has to be borne, what is left, exceptions
@@ -550,6 +570,7 @@ public final class PromisesTest {
         Check.due("1 more BACK, above 99", x.were(0, 2, 1, 0), 105);
         Check.due("0, 0", x.were(0, 0, 1, 0), 5);
         Check.due("FORTH of the other way", x.were(0, 1, 1, 0), 104);
+        Check.due("BACK of the other way", x.were(0, 2, 0, 1), 99);
         Check.due("nothing is another one", x.on(0), before);
         Check.due("nothing is another one", x.edge(0, 2), 99);
         Check.due("nothing is another one", x.edge(0, 3), 99);
@@ -583,6 +604,11 @@ public final class PromisesTest {
         // without an edge of the way back there is no CIRCULATION
         PlanarFlow y = told("grid 2 2;right 0 0 3 -2;down 1 0 5 0;right 0 1 0 5;down 0 0 0 5");
         Check.due("no CIRCULATION counts", y.counts(0, 1, 0), 3);
+        // only edge 6 parts 3 from 0 and 2 all by itself, whichever way
+        PlanarFlow z = told("grid 2 2;right 0 0 0 0;down 0 0 0 4;down 1 0 0 0;right 0 1 0 0");
+        Check.due("1 more FORTH of one edge", z.counts(1, 2, 3), 1);
+        Check.due("1 more BACK of one edge", z.counts(1, 3, 0), 1);
+        Check.due("nothing to lose", z.counts(0, 3, 0), 0);
         y.bears(4, 1, 0);
         Check.due("no CIRCULATION now", y.counts(0, 1, 0), -2);
         Check.due("others first", y.counts(0, 1, 1), -1);
