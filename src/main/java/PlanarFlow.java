@@ -1288,7 +1288,7 @@ public final class PlanarFlow {
                 token = END;
             } else if (isLetter(place)) {
                 token = WORD;
-                while (isLetter(place)) {
+                while (place < length && isLetter(place)) {
                     place++;
                 }
             } else if (bytes[place] == ';') {
@@ -1319,7 +1319,7 @@ public final class PlanarFlow {
         }
 
         private boolean isLetter(int at) {
-            return at < length && bytes[at] >= 'a' && bytes[at] <= 'z';
+            return bytes[at] >= 'a' && bytes[at] <= 'z';
         }
 
         private boolean isWord(String word) {

@@ -63,6 +63,18 @@ final class Check {
         return x.text(text.length());
     }
 
+    /** A new object with what a text tells. */
+    static PlanarFlow told(String text) {
+        PlanarFlow x = new PlanarFlow();
+        due("text <" + text + ">", tell(x, text) >= 0, true);
+        return x;
+    }
+
+    static void noFlow(String when, PlanarFlow x) {
+        due(when + ": count(6)", x.count(6), 0);
+        throwsNoSuch(when + ": on(0)", () -> x.on(0));
+    }
+
     /** The answer to a text with a fault. */
     static int fault(int place, int kind) {
         return -2 - (8 * place + kind);

@@ -28,6 +28,8 @@ public final class LanguageTest {
         Check.due("the imports " + imports,
                 List.of("java.util.Arrays", "java.util.NoSuchElementException").containsAll(imports), true);
         Check.due("classes are at most twelve", places(code, "\\bclass \\w+") <= 12, true);
+        Check.due("loops whose bound is not in their own lines",
+                places(code, "\\bwhile \\((?![^{]* < )|\\bfor \\([^;:)]*;[^;<>]*;"), 0);
         methodNames(code);
         methodLengths(lines);
         Check.end("LanguageTest");

@@ -30,17 +30,6 @@ public final class PromisesTest {
         Check.end("PromisesTest");
     }
 
-    private static PlanarFlow told(String text) {
-        PlanarFlow x = new PlanarFlow();
-        Check.due("text <" + text + ">", Check.tell(x, text) >= 0, true);
-        return x;
-    }
-
-    private static void noFlow(String when, PlanarFlow x) {
-        Check.due(when + ": count(6)", x.count(6), 0);
-        Check.throwsNoSuch(when + ": on(0)", () -> x.on(0));
-    }
-
     // Promise 1
     private static void newObject() {
         PlanarFlow x = new PlanarFlow();
@@ -51,7 +40,7 @@ public final class PromisesTest {
         Check.due("new: circulates()", x.circulates(), 1);
         Check.due("new: back(0)", x.back(0), false);
         Check.due("NONE", PlanarFlow.NONE, -1);
-        noFlow("new", x);
+        Check.noFlow("new", x);
     }
 
     // Promise 2
@@ -137,7 +126,7 @@ public final class PromisesTest {
         says("grid 3 3;back 0 2 1 1", Check.fault(16, 2));
         says("grid 3 3;back 0 1 1 -2", Check.fault(20, 2));
 
-        PlanarFlow x = told("grid 2 3;slash 0 0 3 3;all 2 1;back 0 1 9 -1;down 1 0 5 0;slash 0 1 7 7");
+        PlanarFlow x = Check.told("grid 2 3;slash 0 0 3 3;all 2 1;back 0 1 9 -1;down 1 0 5 0;slash 0 1 7 7");
         Check.due("all: edges that are there then", x.edge(2, 2), 2);
         Check.due("down 1 0", x.edge(4, 2), 5);
         Check.due("the later one counts", x.edge(8, 1), 5);
@@ -159,7 +148,7 @@ public final class PromisesTest {
         Check.due("else as at first: BEARS", x.count(5), 0);
         Check.due("else as at first: aslant", x.count(4), 0);
         Check.due("else as at first: SUPPLY", x.count(8), 0);
-        noFlow("text", x);
+        Check.noFlow("text", x);
         Check.due("images stay", x.back(1), true);
         Check.due("images stay", x.edge(4, 2), 5);
     }
@@ -186,7 +175,7 @@ public final class PromisesTest {
         Check.due("as at first: aslant", x.count(4), 0);
         Check.due("as at first: BEARS", x.count(5), 0);
         Check.due("as at first: SUPPLY", x.count(9), 0);
-        noFlow("grid", x);
+        Check.noFlow("grid", x);
     }
 
     // Promise 5
@@ -200,7 +189,7 @@ public final class PromisesTest {
         }
         Check.due("refused: FLOW stays", x.count(6), 1);
         Check.due("slant(4, 1)", x.slant(4, 1), 0);
-        noFlow("slant", x);
+        Check.noFlow("slant", x);
         Check.due("bears(14, 3, 4)", x.bears(14, 3, 4), true);
         Check.due("slant(4, 1) again", x.slant(4, 1), 1);
         Check.due("its BEARS 0, 0", x.edge(14, 2), 0);
@@ -222,7 +211,7 @@ public final class PromisesTest {
         }
         Check.due("refused: FLOW stays", x.count(6), 1);
         Check.due("bears(0, 99, -99)", x.bears(0, 99, -99), true);
-        noFlow("bears", x);
+        Check.noFlow("bears", x);
         Check.due("FORTH", x.edge(0, 2), 99);
         Check.due("BACK", x.edge(0, 3), -99);
         Check.due("bears(21, -99, 99)", x.bears(21, -99, 99), true);
@@ -231,7 +220,7 @@ public final class PromisesTest {
 
     // Promise 7
     private static void edge() {
-        PlanarFlow x = told("grid 3 3;slash 1 0 1 2;back 0 1 3 4");
+        PlanarFlow x = Check.told("grid 3 3;slash 1 0 1 2;back 0 1 3 4");
         int[][] rows = {{0, 0, 1, 0, 0, 72, 0}, {3, 1, 2, 0, 0, 72, 2}, {4, 1, 4, 0, 0, 3, 0}, {5, 1, 5, 1, 2, 2, 3},
             {7, 2, 5, 0, 0, 72, 2}, {9, 3, 4, 0, 0, 0, 6}, {11, 4, 6, 3, 4, 7, 6}, {12, 4, 5, 0, 0, 3, 8},
             {10, 3, 6, 0, 0, 6, 72}, {13, 4, 7, 0, 0, 8, 7}, {18, 6, 7, 0, 0, 7, 72}, {21, 7, 8, 0, 0, 8, 72}};
@@ -248,7 +237,7 @@ public final class PromisesTest {
 
     // Promise 8
     private static void around() {
-        PlanarFlow x = told("grid 4 3;slash 1 0 1 1");
+        PlanarFlow x = Check.told("grid 4 3;slash 1 0 1 1");
         Check.due("around(0)", x.around(0), 4);
         Check.due("around(2)", x.around(2), 3);
         Check.due("around(3)", x.around(3), 3);
@@ -260,7 +249,7 @@ public final class PromisesTest {
 
     // Promise 9
     private static void distance() {
-        PlanarFlow x = told("grid 3 3;all 3 3;right 0 0 3 9");
+        PlanarFlow x = Check.told("grid 3 3;all 3 3;right 0 0 3 9");
         Check.due("distance(0, 8)", x.distance(0, 8), 6);
         Check.due("distance(0, 0)", x.distance(0, 0), 0);
         x.bears(4, 1, 20);
@@ -280,7 +269,7 @@ public final class PromisesTest {
 
     // Promise 10
     private static void route() {
-        PlanarFlow x = told("grid 3 3;all 3 3");
+        PlanarFlow x = Check.told("grid 3 3;all 3 3");
         Check.due("HOPS", x.route(0, 8, -1), 2);
         Check.due("the least number", x.route(0, 8, 0), 0);
         Check.due("the least number", x.route(0, 8, 1), 16);
@@ -294,7 +283,7 @@ public final class PromisesTest {
         }
         Check.due("no such FACE", x.route(1, 8, -1), -1);
         Check.due("no such FACE", x.route(0, 73, -1), -1);
-        PlanarFlow longer = told("grid 4 2;all 9 9;down 1 0 0 0;down 2 0 0 0;right 0 0 9 0;right 2 0 0 9");
+        PlanarFlow longer = Check.told("grid 4 2;all 9 9;down 1 0 0 0;down 2 0 0 0;right 0 0 9 0;right 2 0 0 9");
         Check.due("two ways cost nothing, the shorter one is it", longer.route(0, 4, -1), 2);
         Check.due("two ways cost nothing, the least number is it", longer.route(0, 4, 0), 0);
         Check.due("on from OUTER", longer.route(0, 4, 1), 6);
@@ -304,7 +293,7 @@ public final class PromisesTest {
 
     // Promises 11, 12
     private static void circulates() {
-        PlanarFlow x = told("grid 2 2;right 0 0 3 -2;down 1 0 5 0;right 0 1 0 5;down 0 0 0 5");
+        PlanarFlow x = Check.told("grid 2 2;right 0 0 3 -2;down 1 0 5 0;right 0 1 0 5;down 0 0 0 5");
         Check.due("has to bear 2, and can", x.circulates(), 1);
         Check.due("potential(72)", x.potential(72), 0);
         Check.due("potential(0)", x.potential(0), 3);
@@ -321,7 +310,7 @@ public final class PromisesTest {
 
     // Promise 13: worked out by hand, round by round
     private static void ring() {
-        PlanarFlow x = told("grid 3 2;all 9 9;right 1 0 -2 9;down 1 0 -3 9;right 0 0 9 4");
+        PlanarFlow x = Check.told("grid 3 2;all 9 9;right 1 0 -2 9;down 1 0 -3 9;right 0 0 9 4");
         Check.due("circulates()", x.circulates(), 0);
         int[] due = {-101, -1, 3, 72, 0, 2, -101, -101};
         for (int i = -3; i < 5; i++) {
@@ -336,7 +325,7 @@ public final class PromisesTest {
 
     // Promises 14 to 17: leftmost ways, worked out by hand
     private static void flow() {
-        PlanarFlow x = told("grid 3 3;all 1 1");
+        PlanarFlow x = Check.told("grid 3 3;all 1 1");
         Check.due("flow(0, 8)", x.flow(0, 8), 2);
         int[] on = {1, 1, 0, 1, 0, 0, 0, 1, 0, 1, 0, 0, 0, 1, 0, 0, 1, 0, 0, 0, 0, 1};
         for (int edge = 0; edge < on.length; edge++) {
@@ -363,7 +352,7 @@ public final class PromisesTest {
         Check.due("without: least", dry.ways(2), 0);
 
         // straight up first at s: of the darts of the middle, up, right, down, left
-        PlanarFlow star = told("grid 3 3;all 0 0;down 1 0 0 1;right 0 0 0 1;down 0 0 1 0;right 0 1 1 1;slash 0 0 1 1");
+        PlanarFlow star = Check.told("grid 3 3;all 0 0;down 1 0 0 1;right 0 0 0 1;down 0 0 1 0;right 0 1 1 1;slash 0 0 1 1");
         Check.due("flow(4, 3)", star.flow(4, 3), 2);
         Check.due("first up, left, down", star.ways(1), 3);
         Check.due("then left", star.on(9), -1);
@@ -389,8 +378,8 @@ public final class PromisesTest {
 
     // Promises 14 to 18: what has to be borne, what is left, exceptions
     private static void questionsOfFlow() {
-        PlanarFlow x = told("grid 2 2;right 0 0 3 -2;down 1 0 5 0;right 0 1 0 5;down 0 0 0 5");
-        noFlow("no flow yet", x);
+        PlanarFlow x = Check.told("grid 2 2;right 0 0 3 -2;down 1 0 5 0;right 0 1 0 5;down 0 0 0 5");
+        Check.noFlow("no flow yet", x);
         Check.due("no FLOW: ways(0)", x.ways(0), -1);
         Check.throwsNoSuch("no FLOW: left(0, 0)", () -> x.left(0, 0));
         Check.throwsNoSuch("no FLOW: excess(0)", () -> x.excess(0));
@@ -418,12 +407,12 @@ public final class PromisesTest {
         x.bears(4, 1, 0);
         Check.due("no CIRCULATION", x.flow(0, 1), -2);
         Check.due("one and itself first", x.flow(1, 1), -1);
-        noFlow("no CIRCULATION", x);
+        Check.noFlow("no CIRCULATION", x);
     }
 
     // Promise 19
     private static void cut() {
-        PlanarFlow x = told("grid 3 3;all 1 1");
+        PlanarFlow x = Check.told("grid 3 3;all 1 1");
         Check.due("no FLOW", x.cut(0, -1), -101);
         x.flow(0, 8);
         int[][] due = {{-101, 2, 2, 0, 1, -101}, {-101, 2, 2, 16, 21, -101}};
@@ -436,7 +425,7 @@ public final class PromisesTest {
         Check.due("cut(-1, -1)", x.cut(-1, -1), -101);
         Check.due("cut(0, greatest)", x.cut(0, Integer.MAX_VALUE), -101);
         // that way: against FORTH of the edges it is BACK that counts
-        PlanarFlow y = told("grid 2 2;all 9 2");
+        PlanarFlow y = Check.told("grid 2 2;all 9 2");
         Check.due("flow(3, 0)", y.flow(3, 0), 4);
         Check.due("cut(0, -2)", y.cut(0, -2), 4);
         Check.due("cut(0, 0)", y.cut(0, 0), 4);
@@ -452,7 +441,7 @@ public final class PromisesTest {
     // Promise 20
     private static void rings() {
         String calm = "grid 5 3;all 5 5;right 0 1 1 1;right 1 1 1 1;down 1 0 1 1;down 1 1 1 1;";
-        PlanarFlow x = told(calm + "right 2 1 0 0;right 3 1 0 0;down 3 0 0 0;down 3 1 0 0");
+        PlanarFlow x = Check.told(calm + "right 2 1 0 0;right 3 1 0 0;down 3 0 0 0;down 3 1 0 0");
         Check.due("no FLOW", x.rings(0), -1);
         Check.due("flow(0, 6)", x.flow(0, 6), 4);
         int[] edges = {4, 10, 15, 18, 19, 21, 24, 25};
@@ -472,7 +461,7 @@ public final class PromisesTest {
 
     // Promise 21
     private static void shared() {
-        PlanarFlow x = told("grid 3 3;all 1 0;down 0 0 7 0;down 0 1 4 0;right 0 2 9 0;right 1 2 9 0");
+        PlanarFlow x = Check.told("grid 3 3;all 1 0;down 0 0 7 0;down 0 1 4 0;right 0 2 9 0;right 1 2 9 0");
         Check.due("shared(0, 8)", x.shared(0, 8), 6);
         Check.due("shared(8, 0)", x.shared(8, 0), 0);
         Check.due("shared(0, 1)", x.shared(0, 1), 1);
@@ -490,7 +479,7 @@ public final class PromisesTest {
     // Promises 22, 25
     private static void gather() {
         // the circulation is 5 all around, clockwise: so node 0 gives its 7 downwards by one way
-        PlanarFlow x = told("grid 2 2;all 5 5");
+        PlanarFlow x = Check.told("grid 2 2;all 5 5");
         Check.due("none: gave(0)", x.gave(0), -101);
         Check.due("gather(0, 3, 7)", x.gather(0, 3, 7), 10);
         int[] gave = {7, 3, 0, -10, -101};
@@ -518,7 +507,7 @@ public final class PromisesTest {
         Check.due("the lower half has no node 1", x.gather(1, 3, 1), 2);
         Check.due("gave(1)", x.gave(1), 0);
         Check.due("gave(2)", x.gave(2), 1);
-        PlanarFlow y = told("grid 3 3;all 1 1");
+        PlanarFlow y = Check.told("grid 3 3;all 1 1");
         Check.due("from all around to the middle", y.gather(72, 4, 3), 4);
         Check.due("gave(4)", y.gave(4), -4);
         y.bears(0, 9, -9);
@@ -527,7 +516,7 @@ public final class PromisesTest {
 
     // Promises 23 to 25
     private static void supplyAndMeet() {
-        PlanarFlow x = told("grid 3 3;all 2 0");
+        PlanarFlow x = Check.told("grid 3 3;all 2 0");
         Check.due("supply(0, 3)", x.supply(0, 3), 0);
         Check.due("supply(8, 99)", x.supply(8, 99), 0);
         Check.due("supply(8, -1)", x.supply(8, -1), 99);
@@ -563,7 +552,7 @@ public final class PromisesTest {
 
     // Promise 26
     private static void were() {
-        PlanarFlow x = told("grid 2 2;right 0 0 99 99;down 1 0 5 0;right 0 1 0 5;down 0 0 0 5");
+        PlanarFlow x = Check.told("grid 2 2;right 0 0 99 99;down 1 0 5 0;right 0 1 0 5;down 0 0 0 5");
         x.flow(1, 0);
         int before = x.on(0);
         Check.due("1 more FORTH, above 99", x.were(0, 1, 0, 1), 100);
@@ -589,7 +578,7 @@ public final class PromisesTest {
 
     // Promise 27
     private static void counts() {
-        PlanarFlow x = told("grid 2 2;right 0 0 5 0;down 0 0 3 0;down 1 0 4 1;right 0 1 7 0");
+        PlanarFlow x = Check.told("grid 2 2;right 0 0 5 0;down 0 0 3 0;down 1 0 4 1;right 0 1 7 0");
         Check.due("counts(0, 0, 3)", x.counts(0, 0, 3), 4);
         Check.due("counts(1, 0, 3)", x.counts(1, 0, 3), 2);
         Check.due("counts(0, 3, 0)", x.counts(0, 3, 0), 0);
@@ -602,10 +591,10 @@ public final class PromisesTest {
         x.counts(0, 0, 3);
         Check.due("nothing is another one", x.on(4), 4);
         // without an edge of the way back there is no CIRCULATION
-        PlanarFlow y = told("grid 2 2;right 0 0 3 -2;down 1 0 5 0;right 0 1 0 5;down 0 0 0 5");
+        PlanarFlow y = Check.told("grid 2 2;right 0 0 3 -2;down 1 0 5 0;right 0 1 0 5;down 0 0 0 5");
         Check.due("no CIRCULATION counts", y.counts(0, 1, 0), 3);
         // only edge 6 parts 3 from 0 and 2 all by itself, whichever way
-        PlanarFlow z = told("grid 2 2;right 0 0 0 0;down 0 0 0 4;down 1 0 0 0;right 0 1 0 0");
+        PlanarFlow z = Check.told("grid 2 2;right 0 0 0 0;down 0 0 0 4;down 1 0 0 0;right 0 1 0 0");
         Check.due("1 more FORTH of one edge", z.counts(1, 2, 3), 1);
         Check.due("1 more BACK of one edge", z.counts(1, 3, 0), 1);
         Check.due("nothing to lose", z.counts(0, 3, 0), 0);
@@ -616,7 +605,7 @@ public final class PromisesTest {
 
     // Promise 28
     private static void worst() {
-        PlanarFlow x = told("grid 2 2;right 0 0 5 0;down 0 0 3 0;down 1 0 4 1;right 0 1 7 0");
+        PlanarFlow x = Check.told("grid 2 2;right 0 0 5 0;down 0 0 3 0;down 1 0 4 1;right 0 1 7 0");
         Check.due("worst(0, 0)", x.worst(0, 0), 2);
         Check.due("worst(0, 1)", x.worst(0, 1), 3);
         Check.due("of several the first", x.worst(2, 0), 0);
@@ -633,7 +622,7 @@ public final class PromisesTest {
 
     // Promises 29, 30
     private static void images() {
-        PlanarFlow x = told("grid 4 3;all 2 2;back 1 1 5 6");
+        PlanarFlow x = Check.told("grid 4 3;all 2 2;back 1 1 5 6");
         x.supply(11, -8);
         for (int i : new int[] {-1, 2, Integer.MAX_VALUE}) {
             Check.due("image(" + i + ")", x.image(i), false);
@@ -651,7 +640,7 @@ public final class PromisesTest {
         x.bears(0, 7, 7);
         x.flow(0, 1);
         Check.due("back(1)", x.back(1), true);
-        noFlow("back", x);
+        Check.noFlow("back", x);
         Check.due("w", x.count(0), 4);
         Check.due("h", x.count(1), 3);
         Check.due("aslant", x.edge(17, 0), 6);
@@ -673,7 +662,7 @@ public final class PromisesTest {
 
     // Promise 31
     private static void count() {
-        PlanarFlow x = told("grid 5 4;all 3 -1;slash 0 0 9 0;back 3 2 0 9");
+        PlanarFlow x = Check.told("grid 5 4;all 3 -1;slash 0 0 9 0;back 3 2 0 9");
         x.supply(0, 5);
         x.supply(19, 6);
         x.supply(7, -9);
